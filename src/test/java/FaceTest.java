@@ -1,0 +1,147 @@
+import java.lang.reflect.Constructor;
+import java.lang.reflect.Field;
+import java.lang.reflect.InvocationTargetException;
+import java.lang.reflect.Method;
+import java.lang.reflect.Modifier;
+import java.nio.file.Files;
+import java.nio.file.Path;
+import java.util.List;
+import java.util.NoSuchElementException;
+import java.util.Random;
+import java.util.TreeSet;
+import java.util.regex.Matcher;
+import java.util.regex.Pattern;
+
+/** The public face, as the document writes it; some rules of LANGUAGE.md; no call throws but as promised. */
+public final class FaceTest {
+    private static final Due DUE = new Due();
+    private static final int[] ODD = {Integer.MIN_VALUE, -100, -2, -1, 0, 1, 2, 3, 5, 6, 8, 9, 10, 40, 60, 72, 99, Integer.MAX_VALUE};
+    private static final Path DOCUMENT = Path.of("../shared/DOC.md");
+    private static final Path SOURCE = Path.of("src/main/java/PurringHolds.java");
+
+    public static void main(String[] args) throws Exception {
+        face();
+        language();
+        methodsAreShort();
+        anyCalls();
+        DUE.close();
+    }
+
+    private static void face() throws Exception {
+        TreeSet<String> due = new TreeSet<>();
+        Matcher m = Pattern.compile("public (int|long|boolean) (\\w+)\\(([^)]*)\\)").matcher(Files.readString(DOCUMENT));
+        while (m.find()) {
+            due.add(m.group(1) + " " + m.group(2) + " " + m.group(3).replaceAll(" \\w+(, )?", ""));
+        }
+        TreeSet<String> has = new TreeSet<>();
+        for (Method method : PurringHolds.class.getDeclaredMethods()) {
+            if (!Modifier.isPrivate(method.getModifiers()) && !method.isSynthetic()) {
+                DUE.yes(method + " is public", Modifier.isPublic(method.getModifiers()));
+                StringBuilder b = new StringBuilder(method.getReturnType() + " " + method.getName() + " ");
+                for (Class<?> type : method.getParameterTypes()) {
+                    b.append(type);
+                }
+                has.add(b.toString());
+            }
+        }
+        DUE.is("methods of the document", due.size(), 50);
+        DUE.yes("the methods are " + has + ", due are " + due, has.equals(due));
+        for (Field field : PurringHolds.class.getDeclaredFields()) {
+            DUE.is(field + " is private", Modifier.isPrivate(field.getModifiers()) ? 1 : 0, field.getName().equals("NONE") ? 0 : 1);
+        }
+        Constructor<?>[] constructors = PurringHolds.class.getDeclaredConstructors();
+        DUE.is("constructors", constructors.length, 1);
+        DUE.is("it takes nothing", constructors[0].getParameterCount(), 0);
+        DUE.yes("the class is final", Modifier.isFinal(PurringHolds.class.getModifiers()));
+        noPrivateMethodBearsAPublicName();
+    }
+
+    private static void noPrivateMethodBearsAPublicName() {
+        TreeSet<String> names = new TreeSet<>();
+        for (Method method : PurringHolds.class.getMethods()) {
+            if (method.getDeclaringClass() == PurringHolds.class) {
+                names.add(method.getName());
+            }
+        }
+        for (Method method : PurringHolds.class.getDeclaredMethods()) {
+            if (Modifier.isPrivate(method.getModifiers())) {
+                DUE.no("private " + method.getName(), names.contains(method.getName()));
+            }
+        }
+        for (Class<?> inside : PurringHolds.class.getDeclaredClasses()) {
+            DUE.yes(inside + " is static", Modifier.isStatic(inside.getModifiers()));
+            for (Method method : inside.getDeclaredMethods()) {
+                DUE.no(inside + " " + method.getName(), names.contains(method.getName()));
+            }
+        }
+    }
+
+    private static void language() throws Exception {
+        String source = Files.readString(SOURCE);
+        String code = source.replaceAll("/\\*\\*?[^*]*\\*/", "").replaceAll("//[^\n]*", "");
+        for (String word : List.of("->", "::", "\\btry\\b", "\\bcatch\\b", "\\bfinally\\b", "\\bassert\\b", "\\bsynchronized\\b",
+            "\\bMath\\.\\w*Exact\\b", "\\bpackage\\b", "\"", "\\binstanceof\\b", "\\bwhile\\b", "\\bdouble\\b", "\\bfloat\\b")) {
+            DUE.no("the source has " + word, Pattern.compile(word).matcher(code).find());
+        }
+        Matcher imports = Pattern.compile("import ([^;]*);").matcher(code);
+        while (imports.find()) {
+            DUE.yes(imports.group(1), imports.group(1).equals("java.util.NoSuchElementException"));
+        }
+        Matcher statics = Pattern.compile("static (?!final)\\w+(\\[\\])? \\w+( =|;)").matcher(code);
+        DUE.no("a static field that is not final", statics.find());
+    }
+
+    private static void methodsAreShort() throws Exception {
+        int began = 0;
+        int lines = 0;
+        for (String line : Files.readAllLines(SOURCE)) {
+            lines++;
+            if (line.matches("( {4}| {8})\\w[^;=]*\\([^;]*\\)[^;=]* \\{") && !line.contains(" class ")) {
+                began = lines;
+                DUE.yes("parameters at line " + lines, line.split(",").length <= 7);
+            }
+            if (line.matches("( {4}| {8})\\}")) {
+                DUE.yes("the method at line " + began + " is short", lines - began <= 60 || began == 0);
+                began = 0;
+            }
+        }
+    }
+
+    private static void anyCalls() throws Exception {
+        List<Method> methods = new java.util.ArrayList<>();
+        for (Method method : PurringHolds.class.getMethods()) {
+            if (method.getDeclaringClass() == PurringHolds.class) {
+                methods.add(method);
+            }
+        }
+        methods.sort(java.util.Comparator.comparing(Method::getName));
+        Random random = new Random(7);
+        String signs = ";0123456789jbgklsn+-*/<>=()fp";
+        for (int run = 0; run < 300; run++) {
+            PurringHolds x = run % 3 == 0 ? new PurringHolds() : Due.viaduct("9;5;4;3;2;1", "910;821;732;643;554;465;370;281", "j-g+s");
+            for (int i = 0; i < 500; i++) {
+                Method method = methods.get(random.nextInt(methods.size()));
+                Object[] given = new Object[method.getParameterCount()];
+                for (int k = 0; k < given.length; k++) {
+                    given[k] = random.nextInt(9) == 0 ? random.nextInt() : ODD[random.nextInt(ODD.length)];
+                }
+                if (method.getName().equals("sign") && random.nextInt(4) > 0) {
+                    given[0] = 0;
+                    for (int k = 0; k < 4; k++) {
+                        given[0] = (Integer) given[0] << 8 | signs.charAt(random.nextInt(signs.length()));
+                    }
+                }
+                callsWell(x, method, given);
+            }
+        }
+    }
+
+    private static void callsWell(PurringHolds x, Method method, Object[] given) throws Exception {
+        try {
+            method.invoke(x, given);
+        } catch (InvocationTargetException e) {
+            boolean may = List.of(method.getExceptionTypes()).contains(NoSuchElementException.class);
+            DUE.yes(method + " threw " + e.getCause(), may && e.getCause().getClass() == NoSuchElementException.class);
+        }
+    }
+}
