@@ -77,6 +77,11 @@ public final class ActsTest {
         DUE.tells("years whole, too", x, x.years(1, 60), 54, 6L * hoursDrawn(1, 60), 30);
         x.undo();
         DUE.is("drops undone", x.count(4), 9726);
+        PurringHolds y = Due.viaduct("5", "590", "");
+        Due.rule(y, "0");
+        y.hours(9);
+        Due.rule(y, "5");
+        DUE.tells("as much as is due: it stays, and nothing drops", y, y.hours(3), 9, 0, 2);
     }
 
     private static int hoursDrawn(int seed, int n) {
@@ -199,6 +204,9 @@ public final class ActsTest {
         DUE.is("and can be undone", x.count(11), 1);
         DUE.tells("an empty one", x, Due.night(x, ""), 0, 0, 0);
         DUE.is("can't", x.count(11), 1);
+        PurringHolds low = Due.viaduct("9", "", "");
+        DUE.tells("hours with drops are done, too", low, Due.night(low, "n9n9n3"), 3, 0, 9);
+        DUE.is("drops", low.count(4), 12);
     }
 
     private static void promise16Faults() {
@@ -304,6 +312,20 @@ public final class ActsTest {
         x.grieves(0, 1);
         Due.night(x, "p0");
         DUE.is("all of these can", x.count(11), 7);
+        int[] joy = {6, 6, 6, 6, 5, 5, 5};
+        int[] bowl = {3, 3, 3, 3, 3, 2, 3};
+        int[] grief = {1, 0, 0, 0, 0, 0, 0};
+        int[] where = {1, 1, 1, 0, 0, 0, 0};
+        int[] load = {9, 9, 1, 1, 1, 1, 1};
+        for (int i = 0; i < 7; i++) {
+            DUE.is("undo " + i, x.undo(), 6 - i);
+            DUE.is("joy behind undo " + i, x.cat(0, 0), joy[i]);
+            DUE.is("bowl behind undo " + i, x.cat(0, 1), bowl[i]);
+            DUE.is("grief behind undo " + i, x.cat(0, 2), grief[i]);
+            DUE.is("arch behind undo " + i, x.cat(0, 3), where[i]);
+            DUE.is("load behind undo " + i, x.arch(0, 0), load[i]);
+        }
+        DUE.is("hour", x.count(2), 0);
     }
 
     private static void promise17Forgets() {

@@ -70,6 +70,8 @@ public final class CatsToArchesTest {
         DUE.tells("l of that arch", l, l.guards(), 1, -1, 0);
         PurringHolds full = Due.viaduct("1;2;3;4;5;6", "600;500;400;300;200;100;000;000", "");
         DUE.tells("six", full, full.guards(), 6, 5, 4, 3, 2, 1, 0);
+        full.grieves(0, 9);
+        DUE.tells("asked again", full, full.guards(), 5, 5, 4, 3, 2, 1, -1);
         PurringHolds cats = Due.viaduct("5;5", "", "");
         DUE.tells("no cats", cats, cats.guards(), 0, -1, -1);
         PurringHolds none = new PurringHolds();
@@ -101,6 +103,9 @@ public final class CatsToArchesTest {
         DUE.is("n 0", x.cheers(0), -1);
         DUE.is("n 31", x.cheers(31), -1);
         DUE.tells("n 30", x, x.cheers(30), 0, 18, 18);
+        x.loads(0, 5);
+        x.loads(1, 5);
+        DUE.tells("one more, not two", x, x.cheers(1), 0, 2, 2);
         PurringHolds nine = Due.viaduct("1", "990", "10-j");
         DUE.tells("9 at most", nine, nine.cheers(1), 0, 0, 0);
         PurringHolds none = Due.viaduct("1", "", "");
@@ -160,6 +165,10 @@ public final class CatsToArchesTest {
         PurringHolds y = Due.viaduct("9;0;9", "", "");
         y.hours(1);
         DUE.tells("of as few the least", y, y.trolley(1), 3, 0);
+        PurringHolds w = Due.viaduct("0;9;0;0;9", "", "");
+        w.hours(1);
+        DUE.tells("the nearer end first", w, w.trolley(2), 4, 4);
+        DUE.tells("the nearer end first", w, w.trolley(3), 4, 1);
         PurringHolds z = Due.viaduct("0;0;9", "", "");
         z.hours(1);
         DUE.tells("it is there", z, z.trolley(2), 0, 2);

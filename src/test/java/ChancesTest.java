@@ -38,6 +38,11 @@ public final class ChancesTest {
         DUE.tells("else as now", k, k.odds(0, 5), 0, 3, 4);
         PurringHolds all = Due.viaduct("8", "100;100;100;100;100;100;100;100", "");
         DUE.tells("eight", all, all.odds(0, 1), 0, 43046721, 100000000);
+        PurringHolds loud = Due.viaduct("9", "900;900;900;900;900;900;900;900", "");
+        DUE.tells("the loudest", loud, loud.odds(0, 0), 0, 1, 1);
+        DUE.tells("the loudest, by half", loud, loud.odds(0, 5), 0, 255, 256);
+        loud.loads(0, 0);
+        DUE.tells("the loudest, without load", loud, loud.odds(0, 5), 0, 1, 1);
         PurringHolds mute = Due.viaduct("3", "300;000", "");
         DUE.tells("one that does not purr anyway", mute, mute.odds(0, 4), 0, 3, 5);
     }
@@ -77,12 +82,14 @@ public final class ChancesTest {
 
     private static void promise45() {
         PurringHolds x = new PurringHolds();
-        DUE.tells("rests 18", x, x.rests(18), 2, 8, 8);
-        DUE.tells("rests 0", x, x.rests(0), 2, 8, 8);
-        DUE.tells("rests 10", x, x.rests(10), 8, 2, 8);
+        int[] pairs = {2, 2, 3, 3, 5, 5, 7, 7, 9, 7, 8, 6, 7, 5, 5, 3, 3, 1, 2};
+        int[] least = {88, 88, 11, 11, 13, 14, 15, 16, 17, 27, 28, 38, 39, 49, 59, 69, 79, 88, 88};
+        for (int v = 0; v <= 18; v++) {
+            DUE.tells("rests " + v, x, x.rests(v), pairs[v], least[v] / 10, least[v] % 10);
+        }
         DUE.is("v 19", x.rests(19), -1);
         DUE.is("v -1", x.rests(-1), -1);
-        DUE.row("the row stays", x, 2, 8);
+        DUE.row("the row stays", x, 8, 8);
     }
 
     private static void promise46() {
@@ -128,8 +135,9 @@ public final class ChancesTest {
     /** The years told by the acts themselves. */
     private static void promise47Cats() {
         for (int seed = -5; seed < 40; seed++) {
-            PurringHolds x = plain();
-            PurringHolds y = plain();
+            int cats = seed % 2 == 0 ? 3 : 1;
+            PurringHolds x = Due.viaduct("5;3;0", "530;421;200".substring(0, 4 * cats - 1), "");
+            PurringHolds y = Due.viaduct("5;3;0", "530;421;200".substring(0, 4 * cats - 1), "");
             int r = seed * 1000003;
             int dropped = 0;
             for (int i = 0; i < 60; i++) {
@@ -140,7 +148,7 @@ public final class ChancesTest {
                     dropped += y.row(0);
                 } else {
                     r = r * 1103515245 + 12345;
-                    int cat = (r >>> 16) % 3;
+                    int cat = (r >>> 16) % cats;
                     r = r * 1103515245 + 12345;
                     if (tells == 2) {
                         y.feeds(cat, (r >>> 16) % 3 + 1);

@@ -74,6 +74,11 @@ public final class GriefTest {
         DUE.tells("all told apart", x, x.feels(), 1, 1);
         PurringHolds y = Due.viaduct("9;9;9", "500;500;501;602", "");
         DUE.tells("of equal ones the first", y, y.feels(), 0, 2);
+        PurringHolds first = Due.viaduct("9;9", "500;301;301", "");
+        first.felt(1, 6);
+        DUE.tells("one is left", first, first.feels(), 0, 1);
+        PurringHolds three = Due.viaduct("9", "400;300;300;300", "");
+        DUE.tells("three alike", three, three.feels(), 0, 3);
         y.felt(0, 5);
         DUE.tells("both in one", y, y.feels(), 0, 2);
         y.felt(0, 6);
@@ -189,5 +194,11 @@ public final class GriefTest {
         Due.rule(loud, "g*7");
         DUE.tells("by purr", loud, loud.asks(), 31, 2);
         DUE.is("no cats", new PurringHolds().asks(), -2);
+        PurringHolds one = Due.viaduct("5", "550", "");
+        DUE.tells("one cat", one, one.asks(), 0, 1);
+        PurringHolds glad = Due.viaduct("5", "900;800", "");
+        DUE.tells("the highest", glad, glad.asks(), 9, 1);
+        PurringHolds last = Due.viaduct("0;0;0;0;0;0", "005;005;000;001", "0");
+        DUE.tells("the last arch", last, last.asks(), 25, 2);
     }
 }

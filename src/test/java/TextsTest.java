@@ -13,6 +13,7 @@ public final class TextsTest {
         promise6Faults();
         promise6Limit();
         promise6Values();
+        promise6Again();
         promise6OfACat();
         promise6Stays();
         promise7();
@@ -33,6 +34,11 @@ public final class TextsTest {
         DUE.nothingSuch("new: row 0", () -> x.row(0));
         DUE.no("new: again", x.again(0));
         DUE.is("new: undo", x.undo(), -1);
+        Due.arches(x, "9");
+        Due.cats(x, "740");
+        x.grieves(0, 2);
+        DUE.is("at first the rule is j-g", x.cat(0, 4), 5);
+        DUE.tells("at first the rule is j-g", x, Due.law(x, "j"), 0, 9, 9, 7);
     }
 
     private static void promise2() {
@@ -174,6 +180,18 @@ public final class TextsTest {
         for (int i = 0; i < texts.length; i++) {
             PurringHolds x = Due.viaduct("6", "720", texts[i]);
             DUE.is("purr by " + texts[i], x.cat(0, 4), due[i]);
+        }
+    }
+
+    /** Rules one behind another on one object: nothing of one is left in the next. */
+    private static void promise6Again() {
+        PurringHolds x = Due.viaduct("6", "720", "");
+        for (int i = 0; i < 60; i++) {
+            DUE.is("a long rule", Due.rule(x, "1+(2*(3-(4/(5)))-6)+" + "0+".repeat(i % 9) + i % 5), 0);
+            DUE.is("a long rule", x.cat(0, 4), Math.max(0, 1 + (2 * 3 - 6) + i % 5));
+            DUE.is("a fault", Due.rule(x, i % 2 == 0 ? "(3<4" : "--7*123)"), i % 2 == 0 ? -5 : -8);
+            DUE.is("a digit first", Due.rule(x, "5" + "-0".repeat(i % 4)), 0);
+            DUE.is("a digit first", x.cat(0, 4), 5);
         }
     }
 
