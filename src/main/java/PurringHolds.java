@@ -1462,6 +1462,9 @@ public final class PurringHolds {
 
         /** What a letter of a rule tells. */
         int thing(int letter, int cat, int arch, int others) {
+            if (!hasCat(cat) || !hasArch(arch)) {
+                return 0;
+            }
             switch (letter) {
                 case 'j':
                     return joy[cat];
