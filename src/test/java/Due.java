@@ -1,3 +1,4 @@
+import java.lang.reflect.Method;
 import java.util.NoSuchElementException;
 
 /** Counts and prints answers that are not as due. */
@@ -9,12 +10,13 @@ final class Due {
 
     private int asked;
     private int wrong;
+    private String test = "";
 
     void is(String what, long got, long want) {
         asked++;
         if (got != want) {
             wrong++;
-            System.out.println(what + " answered " + got + ", due is " + want);
+            System.out.println(test + what + " answered " + got + ", due is " + want);
         }
     }
 
@@ -44,10 +46,64 @@ final class Due {
         try {
             long got = call.answer();
             wrong++;
-            System.out.println(what + " answered " + got + ", due is NoSuchElementException");
+            System.out.println(test + what + " answered " + got + ", due is NoSuchElementException");
         } catch (NoSuchElementException e) {
             return;
         }
+    }
+
+    /** A refused call, or another that changes nothing at all. */
+    void stays(String what, Alike.Act act, long want) {
+        PurringHolds x = Alike.busy();
+        is(what, Alike.answer(act, x), want);
+        alike(what, Alike.all(x), Alike.all(Alike.busy()));
+    }
+
+    /** A call that reads THE TEXT and changes nothing but it. */
+    void staysButText(String what, Alike.Act act, long want) {
+        PurringHolds x = Alike.busy();
+        is(what, Alike.answer(act, x), want);
+        PurringHolds y = Alike.busy();
+        y.end(0);
+        alike(what, Alike.all(x), Alike.all(y));
+    }
+
+    /** A question: it may tell a ROW. */
+    void asksAlone(String what, Alike.Act act, long want) {
+        PurringHolds x = Alike.busy();
+        is(what, Alike.answer(act, x), want);
+        alike(what, Alike.allButRow(x), Alike.allButRow(Alike.busy()));
+    }
+
+    /** The same acts otherwise told: all is alike behind them, the ROW too. */
+    void same(String what, Alike.Act act, Alike.Act other) {
+        PurringHolds x = Alike.busy();
+        PurringHolds y = Alike.busy();
+        Alike.answer(act, x);
+        Alike.answer(other, y);
+        alike(what, Alike.all(x), Alike.all(y));
+    }
+
+    private void alike(String what, String got, String want) {
+        asked++;
+        if (!got.equals(want)) {
+            wrong++;
+            System.out.println(test + what + " left" + got + System.lineSeparator() + "due is" + want);
+        }
+    }
+
+    /** Runs each test that is named by a promise or by the terms; one that asks nothing is wrong. */
+    void tests(Class<?> tests) throws ReflectiveOperationException {
+        for (Method method : tests.getDeclaredMethods()) {
+            if (method.getName().matches("(promise|terms)\\d+[A-Z]\\w*")) {
+                int were = asked;
+                test = method.getName() + ": ";
+                method.setAccessible(true);
+                method.invoke(null);
+                yes("asks something", asked > were);
+            }
+        }
+        close();
     }
 
     void close() {

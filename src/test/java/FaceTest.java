@@ -3,6 +3,7 @@ import java.lang.reflect.Field;
 import java.lang.reflect.InvocationTargetException;
 import java.lang.reflect.Method;
 import java.lang.reflect.Modifier;
+import java.nio.file.DirectoryStream;
 import java.nio.file.Files;
 import java.nio.file.Path;
 import java.util.List;
@@ -17,12 +18,14 @@ public final class FaceTest {
     private static final Due DUE = new Due();
     private static final int[] ODD = {Integer.MIN_VALUE, -100, -2, -1, 0, 1, 2, 3, 5, 6, 8, 9, 10, 40, 60, 72, 99, Integer.MAX_VALUE};
     private static final Path DOCUMENT = Path.of("../shared/DOC.md");
+    private static final Path TESTS = Path.of("src/test/java");
     private static final Path SOURCE = Path.of("src/main/java/PurringHolds.java");
 
     public static void main(String[] args) throws Exception {
         face();
         language();
         methodsAreShort();
+        eachPromiseHasTestsOfItsBounds();
         anyCalls();
         DUE.close();
     }
@@ -105,6 +108,25 @@ public final class FaceTest {
                 began = 0;
             }
         }
+    }
+
+    private static void eachPromiseHasTestsOfItsBounds() throws Exception {
+        TreeSet<String> due = new TreeSet<>(List.of("terms1", "terms2"));
+        Matcher promises = Pattern.compile("(?m)^## Promise (\\d+):").matcher(Files.readString(DOCUMENT));
+        while (promises.find()) {
+            due.add("promise" + promises.group(1));
+        }
+        DUE.is("promises and terms", due.size(), 53);
+        TreeSet<String> has = new TreeSet<>();
+        try (DirectoryStream<Path> files = Files.newDirectoryStream(TESTS, "Edges*Test.java")) {
+            for (Path file : files) {
+                Matcher tests = Pattern.compile("static void ((promise|terms)\\d+)[A-Z]").matcher(Files.readString(file));
+                while (tests.find()) {
+                    has.add(tests.group(1));
+                }
+            }
+        }
+        DUE.yes("tests of bounds are of " + has + ", due are " + due, has.equals(due));
     }
 
     private static void anyCalls() throws Exception {
