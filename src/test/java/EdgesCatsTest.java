@@ -48,6 +48,16 @@ public final class EdgesCatsTest {
         DUE.tells("6 and 7", x, x.trades(), 2, 6, 7);
     }
 
+    /** Each of these would hold both, were the two of one trade left where another's two went. */
+    private static void promise25TwoAlone() {
+        PurringHolds x = Due.viaduct("6;0", "000;301;301", "");
+        x.litters(3);
+        DUE.tells("two for one", x, x.trades(), 1);
+        PurringHolds y = Due.viaduct("6;0", "301;301;000", "");
+        y.litters(3);
+        DUE.tells("two for one", y, y.trades(), 1);
+    }
+
     // ---- promise 26
 
     private static void promise26FromNoneToAll() {
@@ -80,6 +90,9 @@ public final class EdgesCatsTest {
         DUE.tells("two are less than one", crowd, crowd.needs(0), -2, 1);
         crowd.loads(0, 5);
         DUE.tells("one is enough", crowd, crowd.needs(0), 1, 1, 5);
+        PurringHolds alone = Due.viaduct("5;0", "500", "k*9");
+        alone.litters(3);
+        DUE.tells("one without others", alone, alone.needs(0), -2, 1);
     }
 
     private static void promise26NoSuchArch() {
@@ -127,6 +140,25 @@ public final class EdgesCatsTest {
         DUE.tells("none first, as far as it goes", y, y.guards(), 2, -1, 1, 0);
         PurringHolds z = Due.viaduct("5;5", "100;900;900;900", "");
         DUE.tells("the least cats", z, z.guards(), 2, 1, 2);
+    }
+
+    private static void promise27InItAlone() {
+        PurringHolds x = Due.viaduct("5;5", "500;500", "j-k");
+        DUE.tells("by k 0, though both sit in one", x, x.guards(), 2, 0, 1);
+        Due.rule(x, "k*9");
+        DUE.tells("by k 0", x, x.guards(), 0, -1, -1);
+        Due.rule(x, "s+4");
+        x.hours(1);
+        DUE.tells("by s of that arch", x, x.guards(), 1, -1, 0);
+    }
+
+    private static void promise27OneThatIsNeededElsewhere() {
+        PurringHolds x = Due.viaduct("3;5", "500;300", "");
+        DUE.tells("cat 0 alone can hold arch 1", x, x.guards(), 2, 1, 0);
+        x.grieves(1, 9);
+        DUE.tells("cat 1 can't now", x, x.guards(), 1, -1, 0);
+        x.grieves(0, 9);
+        DUE.tells("nobody can now", x, x.guards(), 0, -1, -1);
     }
 
     private static void promise27NoArches() {
@@ -318,6 +350,12 @@ public final class EdgesCatsTest {
         }
         PurringHolds y = sagging("9;0;0;0;9");
         DUE.tells("of as few the least", y, y.trolley(2), 6, 0);
+        PurringHolds w = sagging("0;9;0;0;9;0");
+        int[] midSteps = {4, 3, 4, 4, 3, 4};
+        int[] midEnds = {4, 4, 4, 1, 1, 1};
+        for (int a = 0; a < 6; a++) {
+            DUE.tells("1 and 4, from " + a, w, w.trolley(a), midSteps[a], midEnds[a]);
+        }
         PurringHolds z = sagging("9;9;9;9;9;9");
         for (int a = 0; a < 6; a++) {
             DUE.tells("all, from " + a, z, z.trolley(a), steps[a], ends[a]);

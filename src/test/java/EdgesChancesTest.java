@@ -45,6 +45,8 @@ public final class EdgesChancesTest {
         PurringHolds loud = Due.viaduct("9", "900;900;900;900;900;900;900;900", "");
         DUE.tells("each alone", loud, loud.odds(0, 9), 0, 56953279, 100000000);
         DUE.tells("all purr", loud, loud.odds(0, 0), 0, 1, 1);
+        Due.arches(loud, "1");
+        DUE.tells("nothing of it is left for another arch", loud, loud.odds(1, 0), 0, 0, 1);
     }
 
     private static void promise42NoSuchArch() {
@@ -254,6 +256,7 @@ public final class EdgesChancesTest {
     private static void promise47AnySeed() {
         for (int seed : new int[] {LEAST, LEAST + 1, -12345, -1, 0, 1, 65535, 65536, MOST - 1, MOST}) {
             drawn("three cats", Due.viaduct("5;9;3", "530;421;902", ""), Due.viaduct("5;9;3", "530;421;902", ""), seed);
+            drawn("one cat", Due.viaduct("5;9;3", "531", ""), Due.viaduct("5;9;3", "531", ""), seed);
             drawn("eight cats", Due.viaduct("9", "100;200;300;400;500;600;700;800", "j/4"),
                 Due.viaduct("9", "100;200;300;400;500;600;700;800", "j/4"), seed);
         }

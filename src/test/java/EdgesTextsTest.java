@@ -376,6 +376,20 @@ public final class EdgesTextsTest {
         }
     }
 
+    private static void promise6FaultIsForgotten() {
+        String[] faults = {"(((((j", "((((j", "1<2<3", "(1<2", "1234", "123", "-(-(-", "9*(8/(7+(6-", "-".repeat(41), "5)"};
+        String[] rules = {"5", "((((5))))", "(1<2)*5", "5*(1=1)", "005", "2+3", "--5", "1<2"};
+        for (String fault : faults) {
+            for (String rule : rules) {
+                PurringHolds x = Due.viaduct("5", "720", "");
+                Due.law(x, fault);
+                Due.rule(x, fault);
+                DUE.is(rule + " behind " + fault, Due.rule(x, rule), 0);
+                DUE.is("purr by " + rule + " behind " + fault, x.cat(0, 4), rule.equals("1<2") ? 1 : 5);
+            }
+        }
+    }
+
     private static void promise6IsNotUndone() {
         PurringHolds x = Due.viaduct("5", "720", "3");
         x.keep(0);
