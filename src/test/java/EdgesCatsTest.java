@@ -197,6 +197,14 @@ public final class EdgesCatsTest {
         DUE.is("it stays where it is", x.cat(0, 3), 2);
     }
 
+    /** By k it would be best where it is in nobody's way. */
+    private static void promise28OnlyWhereAnArchIs() {
+        PurringHolds one = Due.viaduct("5", "590;090", "j-k");
+        DUE.tells("of one arch", one, one.best(1, 1), 0, 1, 1);
+        PurringHolds six = Due.viaduct("5;5;5;5;5;5", "590;591;592;593;594;595;090", "j-k");
+        DUE.tells("of six arches", six, six.best(6, 1), 0, 1, 1);
+    }
+
     private static void promise28NoSuchCat() {
         for (int cat : new int[] {LEAST, -1, 3, 8, MOST}) {
             DUE.stays("cat " + cat, x -> x.best(cat, 1), -1);

@@ -282,6 +282,17 @@ public final class EdgesGriefTest {
         DUE.tells("eight", eight, eight.suits(), 255, 8);
     }
 
+    private static void promise40OfEight() {
+        PurringHolds x = Due.viaduct("5;5", "100;200;300;400;501;601;701;801", "");
+        x.heard(0, 0);
+        DUE.tells("all", x, x.suits(), 255, 8);
+        x.heard(2, 1);
+        DUE.tells("four", x, x.suits(), 240, 4);
+        x.heard(3, 8);
+        DUE.tells("the last", x, x.suits(), 128, 1);
+        DUE.tells("the last", x, x.asks(), 0, 1);
+    }
+
     private static void promise40OrMore() {
         for (int v = 0; v <= 9; v++) {
             PurringHolds joy = Due.viaduct("5", "500;400;900", "");

@@ -390,6 +390,18 @@ public final class EdgesTextsTest {
         }
     }
 
+    /** Among these are the numbers of all signs that a rule knows. */
+    private static void promise6NothingOfAnotherIsLeft() {
+        for (int v = 0; v <= 260; v++) {
+            PurringHolds x = Due.viaduct("5", "720", String.valueOf(v));
+            DUE.is("purr by " + v, x.cat(0, 4), Math.min(9, v));
+            Due.rule(x, "4");
+            DUE.is("purr by 4", x.cat(0, 4), 4);
+            Due.rule(x, "5");
+            DUE.is("purr by 5, behind " + v, x.cat(0, 4), 5);
+        }
+    }
+
     private static void promise6IsNotUndone() {
         PurringHolds x = Due.viaduct("5", "720", "3");
         x.keep(0);
