@@ -902,6 +902,8 @@ public final class PurringHolds {
         return MOST_LITTER;
     }
 
+    // ---- rests, rules, years
+
     public int rests(int v) {
         if (v < 0 || v > 18) {
             return NONE;
@@ -933,8 +935,6 @@ public final class PurringHolds {
     private static int worthOf(int own, int others, int v) {
         return 3 * own + (own + others <= v ? 20 : 0) - (own > others ? 4 : 0);
     }
-
-    // ---- rests, rules, years
 
     public int law() {
         int fault = readSpare();

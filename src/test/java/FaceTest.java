@@ -6,9 +6,12 @@ import java.lang.reflect.Modifier;
 import java.nio.file.DirectoryStream;
 import java.nio.file.Files;
 import java.nio.file.Path;
+import java.util.ArrayList;
 import java.util.List;
+import java.util.Map;
 import java.util.NoSuchElementException;
 import java.util.Random;
+import java.util.TreeMap;
 import java.util.TreeSet;
 import java.util.regex.Matcher;
 import java.util.regex.Pattern;
@@ -23,7 +26,11 @@ public final class FaceTest {
 
     public static void main(String[] args) throws Exception {
         face();
+        faceIsWrittenAsInTheDocument();
+        partsAreAsTheDocumentSays();
         language();
+        objectsAreMadeOnce();
+        callsGoAtMostEightDeep();
         methodsAreShort();
         eachPromiseHasTestsOfItsBounds();
         anyCalls();
@@ -57,6 +64,48 @@ public final class FaceTest {
         DUE.is("it takes nothing", constructors[0].getParameterCount(), 0);
         DUE.yes("the class is final", Modifier.isFinal(PurringHolds.class.getModifiers()));
         noPrivateMethodBearsAPublicName();
+    }
+
+    /** Word for word, so that parameters' names and what is thrown are the document's, too. */
+    private static void faceIsWrittenAsInTheDocument() throws Exception {
+        List<String> source = Files.readAllLines(SOURCE);
+        Matcher face = Pattern.compile("(?ms)^## The public face\n.*?^```java\n(.*?)^```$").matcher(Files.readString(DOCUMENT));
+        DUE.yes("the document has a face", face.find());
+        List<String> due = new ArrayList<>();
+        for (String line : face.group(1).split("\n")) {
+            if (!line.isBlank() && !line.equals("}")) {
+                due.add(line.matches(".*\\).*;") ? line.replace(";", " {") : line);
+            }
+        }
+        DUE.is("lines of the face", due.size(), 54);
+        List<String> has = new ArrayList<>();
+        for (String line : source) {
+            if (line.startsWith("import ") || line.startsWith("public ") || line.startsWith("    public ")) {
+                has.add(line);
+            }
+        }
+        for (int i = 0; i < due.size() || i < has.size(); i++) {
+            String one = i < has.size() ? has.get(i) : "";
+            String other = i < due.size() ? due.get(i) : "";
+            DUE.yes("the face has '" + one + "', due is '" + other + "'", one.equals(other));
+        }
+        DUE.is("NONE", PurringHolds.NONE, -1);
+    }
+
+    private static void partsAreAsTheDocumentSays() throws Exception {
+        List<String> due = new ArrayList<>();
+        Matcher parts = Pattern.compile("(?m)^Ahead of the calls (.*) the interface says: (---- .*)\\.$").matcher(Files.readString(DOCUMENT));
+        while (parts.find()) {
+            due.add(parts.group(2));
+            due.addAll(List.of(parts.group(1).replace("`", "").split(", ")));
+        }
+        DUE.is("parts and calls", due.size(), 60);
+        List<String> has = new ArrayList<>();
+        Matcher lines = Pattern.compile("(?m)^    (?:// (---- .*)|public \\w+ (\\w+)\\(.*)$").matcher(Files.readString(SOURCE));
+        while (lines.find()) {
+            has.add(lines.group(1) != null ? lines.group(1) : lines.group(2));
+        }
+        DUE.yes("the parts are " + has + ", due are " + due, has.equals(due));
     }
 
     private static void noPrivateMethodBearsAPublicName() {
@@ -94,20 +143,76 @@ public final class FaceTest {
         DUE.no("a static field that is not final", statics.find());
     }
 
+    /** All calls of a run live in one room: but for what is thrown, a call makes nothing that is not kept and used again. */
+    private static void objectsAreMadeOnce() throws Exception {
+        for (String line : Files.readAllLines(SOURCE)) {
+            if (line.matches("[^*/]*\\bnew .*")) {
+                boolean field = line.matches(" +(private )?(final )?\\w+(\\[\\])? \\w+ = new [^;]*;");
+                boolean inConstructor = line.matches(" +(first|second) = new int\\[most\\];");
+                boolean once = line.matches(" +(ring\\[next\\]|kept\\[i\\]) = new Viaduct\\(\\);");
+                DUE.yes("made:" + line, field || inConstructor || once || line.matches(" +throw new NoSuchElementException\\(\\);"));
+            }
+            DUE.no("copied:" + line, line.matches(".*(\\.clone\\(|Arrays\\.copyOf).*"));
+        }
+    }
+
+    /** By the names of what is called: the library's own functions count as one more. */
+    private static void callsGoAtMostEightDeep() throws Exception {
+        Map<String, String> bodies = new TreeMap<>();
+        String name = "";
+        String end = "";
+        for (String line : Files.readAllLines(SOURCE)) {
+            Matcher method = Pattern.compile("( {4}| {8})(?:\\w+(?:\\[\\])? )+(\\w+)\\([^;]*\\)[^;=]* \\{").matcher(line);
+            if (method.matches()) {
+                name = method.group(2);
+                end = method.group(1) + "}";
+                bodies.merge(name, "", String::concat);
+            } else if (line.equals(end)) {
+                name = "";
+            } else if (!name.isEmpty()) {
+                bodies.merge(name, line.replaceAll("//.*", "") + "\n", String::concat);
+            }
+        }
+        DUE.yes("methods are found", bodies.size() > 100);
+        for (String each : bodies.keySet()) {
+            DUE.yes("calls from " + each + " on go deeper than eight", depthOf(each, bodies, 0) <= 8);
+        }
+        DUE.is("the deepest", depthOf("law", bodies, 0), 8);
+    }
+
+    private static int depthOf(String name, Map<String, String> bodies, int above) {
+        if (above > 20 || !bodies.containsKey(name)) {
+            return 1;
+        }
+        int deepest = 0;
+        Matcher calls = Pattern.compile("(\\w+)\\(").matcher(bodies.get(name));
+        while (calls.find()) {
+            if (!List.of("if", "for", "switch", "return").contains(calls.group(1))) {
+                deepest = Math.max(deepest, depthOf(calls.group(1), bodies, above + 1));
+            }
+        }
+        return 1 + deepest;
+    }
+
     private static void methodsAreShort() throws Exception {
         int began = 0;
         int lines = 0;
+        int methods = 0;
+        String end = "";
         for (String line : Files.readAllLines(SOURCE)) {
             lines++;
-            if (line.matches("( {4}| {8})\\w[^;=]*\\([^;]*\\)[^;=]* \\{") && !line.contains(" class ")) {
+            Matcher method = Pattern.compile("( {4}| {8})\\w[^;=]*\\([^;]*\\)[^;=]* \\{").matcher(line);
+            if (end.isEmpty() && method.matches()) {
                 began = lines;
+                methods++;
+                end = method.group(1) + "}";
                 DUE.yes("parameters at line " + lines, line.split(",").length <= 7);
-            }
-            if (line.matches("( {4}| {8})\\}")) {
-                DUE.yes("the method at line " + began + " is short", lines - began <= 60 || began == 0);
-                began = 0;
+            } else if (line.equals(end)) {
+                DUE.yes("the method at line " + began + " is short", lines - began <= 60);
+                end = "";
             }
         }
+        DUE.yes("methods are found", methods > 100);
     }
 
     private static void eachPromiseHasTestsOfItsBounds() throws Exception {
@@ -130,7 +235,7 @@ public final class FaceTest {
     }
 
     private static void anyCalls() throws Exception {
-        List<Method> methods = new java.util.ArrayList<>();
+        List<Method> methods = new ArrayList<>();
         for (Method method : PurringHolds.class.getMethods()) {
             if (method.getDeclaringClass() == PurringHolds.class) {
                 methods.add(method);
