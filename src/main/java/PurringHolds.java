@@ -19,6 +19,7 @@ public final class PurringHolds {
     private static final int MOST_HOLD = 72;
     private static final int MOST_FELT = 10;
     private static final int MOST_HEARD = 12;
+    private static final int LONGEST_NOTES = 12;
     private static final int MOST_UNDONE = 12;
     private static final int MOST_KEPT = 2;
     private static final int MOST_DROPS = 9999;
@@ -1152,19 +1153,19 @@ public final class PurringHolds {
         }
     }
 
-    /** Pairs of numbers that were felt or heard. */
+    /** Pairs of numbers that were felt or heard, up to a most of its own that LONGEST_NOTES has room for. */
     private static final class Notes {
-        final int[] first;
-        final int[] second;
+        final int[] first = new int[LONGEST_NOTES];
+        final int[] second = new int[LONGEST_NOTES];
+        final int most;
         int size;
 
-        Notes(int most) {
-            first = new int[most];
-            second = new int[most];
+        Notes(int ownMost) {
+            most = ownMost;
         }
 
         int add(int one, int other) {
-            if (size >= first.length || size >= second.length) {
+            if (size >= most || size >= LONGEST_NOTES) {
                 return NONE;
             }
             first[size] = one;

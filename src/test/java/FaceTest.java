@@ -147,10 +147,10 @@ public final class FaceTest {
     private static void objectsAreMadeOnce() throws Exception {
         for (String line : Files.readAllLines(SOURCE)) {
             if (line.matches("[^*/]*\\bnew .*")) {
-                boolean field = line.matches(" +(private )?(final )?\\w+(\\[\\])? \\w+ = new [^;]*;");
-                boolean inConstructor = line.matches(" +(first|second) = new int\\[most\\];");
+                boolean field = line.matches(" +(private )?(final )?\\w+ \\w+ = new \\w+\\([A-Z_]*\\);");
+                boolean array = line.matches(" +(private )?final \\w+\\[\\] \\w+ = new \\w+\\[[A-Z_]+( \\+ 1)?\\];");
                 boolean once = line.matches(" +(ring\\[next\\]|kept\\[i\\]) = new Viaduct\\(\\);");
-                DUE.yes("made:" + line, field || inConstructor || once || line.matches(" +throw new NoSuchElementException\\(\\);"));
+                DUE.yes("made:" + line, field || array || once || line.matches(" +throw new NoSuchElementException\\(\\);"));
             }
             DUE.no("copied:" + line, line.matches(".*(\\.clone\\(|Arrays\\.copyOf).*"));
         }
