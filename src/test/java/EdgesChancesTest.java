@@ -1,3 +1,7 @@
+import java.io.IOException;
+import java.nio.file.Files;
+import java.nio.file.Path;
+
 /** Promises 42 to 47, each sentence that names a bound: the last that is allowed, the first beyond it, what is left alone. */
 public final class EdgesChancesTest {
     private static final Due DUE = new Due();
@@ -128,6 +132,15 @@ public final class EdgesChancesTest {
         for (int v : new int[] {LEAST, -1, 19, MOST}) {
             DUE.stays("rests " + v, y -> y.rests(v), -1);
         }
+    }
+
+    /** The document has rests() under the heading of rests, rules and years, not under that of chances and litters. */
+    private static void promise45StandsUnderItsHeading() throws IOException {
+        String source = Files.readString(Path.of("src/main/java/PurringHolds.java"));
+        int heading = source.indexOf("    // ---- rests, rules, years\n");
+        DUE.yes("the heading is there", heading >= 0);
+        DUE.yes("rests() is behind it", source.indexOf("    public int rests(int v) {\n") > heading);
+        DUE.yes("litters() is ahead of it", source.indexOf("    public int litters(int n) {\n") < heading);
     }
 
     /** By what the document says of x and y, pair by pair. */
